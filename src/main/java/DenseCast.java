@@ -56,7 +56,7 @@ public final class DenseCast {
     }
 
     public boolean attach(int link, int router) {
-        if (!isLink(link) || !isRouter(router) || isAttached(link, router)) {
+        if (!isLink(link) || !isRouter(router) || contains(attachedSet[link], router)) {
             return false;
         }
         attachedSet[link] |= 1 << router;
@@ -66,7 +66,7 @@ public final class DenseCast {
     }
 
     public boolean detach(int link, int router) {
-        if (!isLink(link) || !isRouter(router) || !isAttached(link, router)) {
+        if (!isLink(link) || !isRouter(router) || !contains(attachedSet[link], router)) {
             return false;
         }
         attachedSet[link] &= ~(1 << router);
@@ -120,7 +120,8 @@ public final class DenseCast {
         clearPacketRecord();
         flood(source);
         electForwarders(source);
-        pruneUnwantedLinks(source);
+        int needed = neededSet(source);
+        pruneUnwantedLinks(source, needed);
         return countReachedMembers();
     }
 
@@ -208,10 +209,6 @@ public final class DenseCast {
         return router >= 0 && router < routerCount;
     }
 
-    private boolean isAttached(int link, int router) {
-        return contains(attachedSet[link], router);
-    }
-
     private void reset() {
         for (int source = 0; source < routerCount; source++) {
             for (int link = 0; link < linkCount; link++) {
@@ -257,14 +254,14 @@ public final class DenseCast {
         int least = UNREACHABLE;
         for (int router = 0; router < routerCount; router++) {
             int known = routeDistance[source * MAX_ROUTERS + router];
-            if (isAttached(link, router) && known < least) {
+            if (contains(attachedSet[link], router) && known < least) {
                 least = known;
             }
         }
         int across = least + linkCost[link];
         for (int router = 0; router < routerCount; router++) {
             int at = source * MAX_ROUTERS + router;
-            if (isAttached(link, router) && across < routeDistance[at]) {
+            if (contains(attachedSet[link], router) && across < routeDistance[at]) {
                 routeDistance[at] = across;
             }
         }
@@ -272,7 +269,7 @@ public final class DenseCast {
 
     private int findReversePath(int source, int router) {
         for (int link = 0; link < linkCount; link++) {
-            if (isAttached(link, router) && upstreamRouter(source, router, link) != NONE) {
+            if (contains(attachedSet[link], router) && upstreamRouter(source, router, link) != NONE) {
                 return link;
             }
         }
@@ -284,7 +281,7 @@ public final class DenseCast {
         int nearer = routeDistance[source * MAX_ROUTERS + router] - linkCost[link];
         for (int other = routerCount - 1; other >= 0; other--) {
             int known = routeDistance[source * MAX_ROUTERS + other];
-            if (other != router && isAttached(link, other) && known == nearer) {
+            if (other != router && contains(attachedSet[link], other) && known == nearer) {
                 return other;
             }
         }
@@ -342,7 +339,7 @@ public final class DenseCast {
     private boolean mayTransmit(int source, int router, int link) {
         int winner = assertWinner[source * MAX_LINKS + link];
         return hasTwoOrMore(attachedSet[link])
-            && isAttached(link, router)
+            && contains(attachedSet[link], router)
             && reversePath[source * MAX_ROUTERS + router] != link
             && pruneTimer[source * MAX_LINKS + link] == 0
             && (winner == NONE || winner == router);
@@ -386,15 +383,6 @@ public final class DenseCast {
         return own <= routeDistance[source * MAX_ROUTERS + lower];
     }
 
-    private void pruneUnwantedLinks(int source) {
-        int needed = neededSet(source);
-        for (int link = 0; link < linkCount; link++) {
-            if (transmitterSet[link] != 0 && !isWanted(source, link, needed)) {
-                pruneTimer[source * MAX_LINKS + link] = holdTime;
-            }
-        }
-    }
-
     private int neededSet(int source) {
         int needed = 0;
         for (int router = 0; router < routerCount; router++) {
@@ -402,7 +390,7 @@ public final class DenseCast {
                 needed |= 1 << router;
             }
         }
-        // Every pass but the last adds a router, so as many passes as routers are enough.
+        // After a pass that adds no router none adds one, so as many passes as routers are enough.
         for (int pass = 0; pass < routerCount; pass++) {
             needed = withForwarders(source, needed);
         }
@@ -418,6 +406,14 @@ public final class DenseCast {
             }
         }
         return grown;
+    }
+
+    private void pruneUnwantedLinks(int source, int needed) {
+        for (int link = 0; link < linkCount; link++) {
+            if (transmitterSet[link] != 0 && !isWanted(source, link, needed)) {
+                pruneTimer[source * MAX_LINKS + link] = holdTime;
+            }
+        }
     }
 
     private boolean isWanted(int source, int link, int needed) {
