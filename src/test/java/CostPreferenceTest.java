@@ -6,11 +6,9 @@ public final class CostPreferenceTest {
         costIsSet();
         costResets(9, "393");
         costResets(7, "391");
-        costRefuses();
         preferenceIsSet();
         preferenceResets(205, "461");
         preferenceResets(200, "456");
-        preferenceRefuses();
         check.finish();
     }
 
@@ -38,20 +36,6 @@ public final class CostPreferenceTest {
         check.due("P4 distance(0, 4)", 2 + cost, x.distance(0, 4));
     }
 
-    private static void costRefuses() {
-        DenseCast x = Nets.busyDiamond(4);
-        String before = View.all(x);
-        for (int link : Nets.WRONG_LINKS) {
-            check.due("P4 setCost(" + link + ", 3)", false, x.setCost(link, 3));
-        }
-        int[] costs = {Integer.MIN_VALUE, -1, 0, 16, 17, Integer.MAX_VALUE};
-        for (int cost : costs) {
-            check.due("P4 setCost(0, " + cost + ")", false, x.setCost(0, cost));
-            check.due("P4 setCost(5, " + cost + ")", false, x.setCost(5, cost));
-        }
-        check.due("P4 state after refusals", before, View.all(x));
-    }
-
     private static void preferenceIsSet() {
         DenseCast x = new DenseCast(12, 1, 4);
         x.join(11);
@@ -73,19 +57,5 @@ public final class CostPreferenceTest {
         String state = View.prunes(x) + View.forwarders(x) + View.record(x);
         check.due("P5 state after setPreference", Nets.freshProtocol(), state);
         check.due("P5 routes after setPreference", routes, View.routes(x));
-    }
-
-    private static void preferenceRefuses() {
-        DenseCast x = Nets.busyDiamond(4);
-        String before = View.all(x);
-        for (int router : Nets.WRONG_ROUTERS) {
-            check.due("P5 setPreference(" + router + ", 3)", false, x.setPreference(router, 3));
-        }
-        int[] values = {Integer.MIN_VALUE, -256, -1, 256, 257, Integer.MAX_VALUE};
-        for (int preference : values) {
-            check.due("P5 setPreference(0, " + preference + ")", false, x.setPreference(0, preference));
-            check.due("P5 setPreference(6, " + preference + ")", false, x.setPreference(6, preference));
-        }
-        check.due("P5 state after refusals", before, View.all(x));
     }
 }

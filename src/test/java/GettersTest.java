@@ -7,7 +7,6 @@ public final class GettersTest {
         pruneLeftIsPerSource();
         recordIsOfTheLastPacket();
         statesOfLinksAndRouters();
-        wrongNumbers();
         gettersChangeNothing();
         check.finish();
     }
@@ -81,22 +80,6 @@ public final class GettersTest {
         check.due("P15 routerState(11), member", 257, x.routerState(11));
         x.leave(11);
         check.due("P15 routerState(11), no member", 1, x.routerState(11));
-    }
-
-    private static void wrongNumbers() {
-        DenseCast x = Nets.busyDiamond(4);
-        for (int router : Nets.WRONG_ROUTERS) {
-            check.due("P12 forwarder(" + router + ", 2)", -1, x.forwarder(router, 2));
-            check.due("P13 pruneLeft(" + router + ", 0)", -1, x.pruneLeft(router, 0));
-            check.due("P14 received(" + router + ")", -1, x.received(router));
-            check.due("P15 routerState(" + router + ")", -1, x.routerState(router));
-        }
-        for (int link : Nets.WRONG_LINKS) {
-            check.due("P12 forwarder(0, " + link + ")", -1, x.forwarder(0, link));
-            check.due("P13 pruneLeft(0, " + link + ")", -1, x.pruneLeft(0, link));
-            check.due("P14 carried(" + link + ")", -1, x.carried(link));
-            check.due("P15 linkState(" + link + ")", -1, x.linkState(link));
-        }
     }
 
     private static void gettersChangeNothing() {

@@ -5,13 +5,9 @@ public final class JoinLeaveTest {
     public static void main(String[] args) {
         joinSetsTheFlag();
         joinGraftsTheWholePath();
-        joinGraftsTowardEverySource();
         joinFollowsTheAssertWinner();
         joinChangesTimersOnly();
-        joinOfTheSourceOrApart();
-        joinRefuses();
         leaveClearsTheFlag();
-        leaveRefuses();
         check.finish();
     }
 
@@ -38,21 +34,6 @@ public final class JoinLeaveTest {
         x.join(11);
         check.due("P6 pruneLeft(0, 10)", 0, x.pruneLeft(0, 10));
         check.due("P6 send(0)", 2, x.send(0));
-    }
-
-    private static void joinGraftsTowardEverySource() {
-        DenseCast x = Nets.line(5, 9);
-        for (int source = 0; source < 5; source++) {
-            x.send(source);
-        }
-        x.join(2);
-        for (int source = 0; source < 5; source++) {
-            for (int link = 0; link < 4; link++) {
-                boolean isOnPath = source < 2 ? link >= source && link < 2 : link >= 2 && link < source;
-                String call = "P6 pruneLeft(" + source + ", " + link + ")";
-                check.due(call, isOnPath ? 0 : 9, x.pruneLeft(source, link));
-            }
-        }
     }
 
     private static void joinFollowsTheAssertWinner() {
@@ -87,29 +68,6 @@ public final class JoinLeaveTest {
         check.due("P6 pruneLeft(0, 4), on the path", 0, x.pruneLeft(0, 4));
     }
 
-    private static void joinOfTheSourceOrApart() {
-        DenseCast x = Nets.diamond(3);
-        x.detach(4, 5);
-        x.send(0);
-        String before = View.prunes(x);
-        check.due("P6 join(5), a router apart", true, x.join(5));
-        check.due("P6 join(0), the source", true, x.join(0));
-        check.due("P6 timers after these", before, View.prunes(x));
-        check.due("P6 routerState(5)", 256, x.routerState(5));
-        check.due("P6 routerState(0)", 256, x.routerState(0));
-    }
-
-    private static void joinRefuses() {
-        DenseCast x = Nets.busyDiamond(4);
-        String before = View.all(x);
-        for (int router : Nets.WRONG_ROUTERS) {
-            check.due("P6 join(" + router + ")", false, x.join(router));
-        }
-        check.due("P6 join(4), a member already", false, x.join(4));
-        check.due("P6 join(0), a member already", false, x.join(0));
-        check.due("P6 state after refusals", before, View.all(x));
-    }
-
     private static void leaveClearsTheFlag() {
         DenseCast x = Nets.busyDiamond(4);
         String before = View.all(x);
@@ -121,15 +79,5 @@ public final class JoinLeaveTest {
         check.due("P7 send(0)", 1, x.send(0));
         check.due("P7 pruneLeft(0, 3)", 4, x.pruneLeft(0, 3));
         check.due("P7 join(4) again", true, x.join(4));
-    }
-
-    private static void leaveRefuses() {
-        DenseCast x = Nets.busyDiamond(4);
-        String before = View.all(x);
-        for (int router : Nets.WRONG_ROUTERS) {
-            check.due("P7 leave(" + router + ")", false, x.leave(router));
-        }
-        check.due("P7 leave(5), no member", false, x.leave(5));
-        check.due("P7 state after refusals", before, View.all(x));
     }
 }

@@ -52,8 +52,8 @@ public final class ModelTest {
     }
 
     private static void oneCall(DenseCast x, Model due, StringBuilder calls) {
-        int router = roll(0, 19) == 0 ? roll(-1, 12) : roll(0, due.routers - 1);
-        int link = roll(0, 19) == 0 ? roll(-1, 16) : roll(0, due.links - 1);
+        int router = roll(0, 19) == 0 ? anyNumber(due.routers) : roll(0, due.routers - 1);
+        int link = roll(0, 19) == 0 ? anyNumber(due.links) : roll(0, due.links - 1);
         // Changes of the network are rare, since each one forgets what the packets have set up.
         int kind = roll(0, 59);
         if (kind < 1) {
@@ -62,11 +62,11 @@ public final class ModelTest {
             calls.append(" detach(" + link + ", " + router + ")");
             check.due(calls.toString(), due.detach(link, router), x.detach(link, router));
         } else if (kind < 3) {
-            int cost = roll(0, 16);
+            int cost = roll(0, 9) == 0 ? anyNumber(16) : roll(1, 15);
             calls.append(" setCost(" + link + ", " + cost + ")");
             check.due(calls.toString(), due.setCost(link, cost), x.setCost(link, cost));
         } else if (kind < 5) {
-            int preference = roll(0, 9) == 0 ? roll(-2, 258) : roll(0, 2);
+            int preference = roll(0, 9) == 0 ? anyNumber(256) : roll(0, 2);
             calls.append(" setPreference(" + router + ", " + preference + ")");
             check.due(calls.toString(), due.setPreference(router, preference), x.setPreference(router, preference));
         } else if (kind < 15) {
@@ -76,7 +76,7 @@ public final class ModelTest {
             calls.append(" leave(" + router + ")");
             check.due(calls.toString(), due.leave(router), x.leave(router));
         } else if (kind < 30) {
-            int n = roll(-1, 5);
+            int n = roll(0, 9) == 0 ? anyNumber(65) : roll(1, 5);
             calls.append(" tick(" + n + ")");
             due.tick(n);
             x.tick(n);
@@ -86,6 +86,12 @@ public final class ModelTest {
         } else {
             sendTwice(x, due, calls, router);
         }
+    }
+
+    /** Mostly none of 0 to count - 1: the next ones, the extremes and others. */
+    private static int anyNumber(int count) {
+        int[] outside = Edges.outside(count);
+        return roll(0, 4) == 0 ? roll(-1, count) : outside[roll(0, outside.length - 1)];
     }
 
     /** The last paragraph of promise 8: the second packet of a source goes nowhere twice. */

@@ -1,8 +1,5 @@
 /** Networks that several tests start from. */
 final class Nets {
-    static final int[] WRONG_ROUTERS = {Integer.MIN_VALUE, -2, -1, 6, 7, 12, Integer.MAX_VALUE};
-    static final int[] WRONG_LINKS = {Integer.MIN_VALUE, -2, -1, 5, 6, 16, Integer.MAX_VALUE};
-
     private Nets() {
     }
 
@@ -38,6 +35,30 @@ final class Nets {
         for (int link = 0; link < routers - 1; link++) {
             wire(x, link, link, link + 1);
         }
+        return x;
+    }
+
+    /** A ring of routers: link k lies between k and k + 1, and the last link, of its own cost, closes it. */
+    static DenseCast ring(int routers, int lastCost, int hold) {
+        DenseCast x = new DenseCast(routers, routers, hold);
+        for (int link = 0; link < routers; link++) {
+            wire(x, link, link, (link + 1) % routers);
+        }
+        x.setCost(routers - 1, lastCost);
+        return x;
+    }
+
+    /** Source 0 reaches 1, 2 and 3 over links 0, 1 and 2 of the given costs; all three and 4 are on link 3. */
+    static DenseCast threeWays(int cost1, int cost2, int cost3) {
+        DenseCast x = new DenseCast(5, 4, 3);
+        wire(x, 0, 0, 1);
+        wire(x, 1, 0, 2);
+        wire(x, 2, 0, 3);
+        wire(x, 3, 1, 2, 3, 4);
+        x.setCost(0, cost1);
+        x.setCost(1, cost2);
+        x.setCost(2, cost3);
+        x.setCost(3, 15);
         return x;
     }
 

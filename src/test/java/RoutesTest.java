@@ -10,7 +10,6 @@ public final class RoutesTest {
         reversePathIsPerRouter();
         linkOfOneLeadsNowhere();
         followsEveryChange();
-        refuses();
         check.finish();
     }
 
@@ -116,18 +115,5 @@ public final class RoutesTest {
         x.detach(0, 0);
         check.due("P10 distance(0, 5), 0 apart", -1, x.distance(0, 5));
         check.due("P11 rpfLink(0, 5), 0 apart", -1, x.rpfLink(0, 5));
-    }
-
-    private static void refuses() {
-        DenseCast x = Nets.busyDiamond(4);
-        String before = View.all(x);
-        for (int wrong : Nets.WRONG_ROUTERS) {
-            check.due("P10 distance(" + wrong + ", 1)", -1, x.distance(wrong, 1));
-            check.due("P10 distance(1, " + wrong + ")", -1, x.distance(1, wrong));
-            check.due("P10 distance(" + wrong + ", " + wrong + ")", -1, x.distance(wrong, wrong));
-            check.due("P11 rpfLink(" + wrong + ", 1)", -1, x.rpfLink(wrong, 1));
-            check.due("P11 rpfLink(1, " + wrong + ")", -1, x.rpfLink(1, wrong));
-        }
-        check.due("P10 state after getters", before, View.all(x));
     }
 }
