@@ -111,6 +111,7 @@ public final class AttachEdgeTest {
 
     private static void nothingElseChanges() {
         Edges.Net net = Edges.crowded(12, 16, 8, 0, 5, 11);
+        check.due("settings before", Edges.crowdedSettings(12, 16, 8, 0, 5, 11), View.settings(net.x()));
         for (int link = 0; link < 16; link++) {
             for (int router : net.apart(link)) {
                 String before = Edges.settingsBut(net, link, -1);

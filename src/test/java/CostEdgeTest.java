@@ -105,6 +105,7 @@ public final class CostEdgeTest {
 
     private static void nothingElseChanges() {
         Edges.Net net = Edges.crowded(12, 16, 8, 0, 5, 11);
+        check.due("settings before", Edges.crowdedSettings(12, 16, 8, 0, 5, 11), View.settings(net.x()));
         for (int link = 0; link < 16; link++) {
             for (int cost = 1; cost <= 15; cost++) {
                 String before = Edges.settingsBut(net, link, -1);

@@ -63,28 +63,46 @@ final class Edges {
     /**
      * Every router stands on the hub, a link of cost 1, which is thus everybody's reverse path. Each other link
      * is dearer and joins two routers, so that both transmit there: it gets a forwarder and a timer from every
-     * source. The timers differ from source to source: 16 - R for source 0 and one more for each next one.
+     * source. The timers differ from source to source: 16 for the last one and one less for each one before it.
      */
     static Net crowded(int routers, int links, int hub, int... members) {
         DenseCast x = new DenseCast(routers, links, 16);
-        for (int router = 0; router < routers; router++) {
-            Nets.wire(x, hub, router);
-            x.setPreference(router, 5 + 20 * router);
-        }
-        for (int link = 0; link < links; link++) {
-            if (link != hub) {
-                Nets.wire(x, link, link % routers, (link + 1) % routers);
-                x.setCost(link, 2 + link % 14);
-            }
-        }
         for (int member : members) {
             x.join(member);
         }
+        for (int router = 0; router < routers; router++) {
+            x.setPreference(router, 5 + 20 * router);
+            Nets.wire(x, hub, router);
+        }
+        for (int link = 0; link < links; link++) {
+            if (link != hub) {
+                x.setCost(link, 2 + link % 14);
+                Nets.wire(x, link, link % routers, (link + 1) % routers);
+            }
+        }
         for (int source = 0; source < routers; source++) {
-            x.send(source);
             x.tick(1);
+            x.send(source);
         }
         return new Net(x, routers, links);
+    }
+
+    /** What View.settings tells of a crowded net, worked out without one. */
+    static String crowdedSettings(int routers, int links, int hub, int... members) {
+        StringBuilder text = new StringBuilder("links");
+        for (int link = -1; link <= DenseCast.MAX_LINKS; link++) {
+            int pair = 1 << (link + routers) % routers | 1 << (link + 1) % routers;
+            int due = link == hub ? 1 + 16 * ((1 << routers) - 1) : 2 + link % 14 + 16 * pair;
+            text.append(' ').append(link < 0 || link >= links ? -1 : due);
+        }
+        text.append("\nrouters");
+        for (int router = -1; router <= DenseCast.MAX_ROUTERS; router++) {
+            int number = router;
+            boolean isMember = IntStream.of(members).anyMatch(member -> member == number);
+            int due = 5 + 20 * router + (isMember ? 256 : 0);
+            text.append(' ').append(router < 0 || router >= routers ? -1 : due);
+        }
+        return text.append('\n').toString();
     }
 
     /** The least and the greatest numbers of routers and links, and some between, each network full of state. */
@@ -152,17 +170,34 @@ final class Edges {
         }
     }
 
-    /** The getter is asked for right and for wrong numbers, and every other answer stays as it was. */
-    static void changesNothing(Check check, String name, Look look) {
-        for (Net net : nets()) {
-            String before = View.all(net.x());
-            for (int first = -2; first <= 18; first++) {
-                for (int second = -2; second <= 18; second++) {
-                    look.at(net.x(), first, second);
-                }
+    private static final Look[] GETTERS = {DenseCast::distance, DenseCast::rpfLink, DenseCast::forwarder,
+        DenseCast::pruneLeft, (x, first, second) -> x.received(first), (x, first, second) -> x.carried(first),
+        (x, first, second) -> x.linkState(first), (x, first, second) -> x.routerState(first)};
+
+    /**
+     * Of two equal networks one is asked beforehand, for right and for wrong numbers, and then each getter by
+     * itself tells the same of both: so a getter that spoils what another one tells is found out.
+     */
+    static void changesNothing(Check check, String name, Look asked) {
+        for (int i = 0; i < GETTERS.length; i++) {
+            for (int[] size : new int[][] {{2, 1, 0}, {6, 5, 2}, {12, 16, 8}}) {
+                Net looked = crowded(size[0], size[1], size[2], 1);
+                Net fresh = crowded(size[0], size[1], size[2], 1);
+                answers(looked.x(), asked);
+                String call = looked.name() + "getter " + i + " after " + name;
+                check.due(call, answers(fresh.x(), GETTERS[i]), answers(looked.x(), GETTERS[i]));
             }
-            check.due(net.name() + "state after " + name, before, View.all(net.x()));
         }
+    }
+
+    private static String answers(DenseCast x, Look look) {
+        StringBuilder text = new StringBuilder();
+        for (int first = -2; first <= 18; first++) {
+            for (int second = -2; second <= 18; second++) {
+                text.append(look.at(x, first, second)).append(' ');
+            }
+        }
+        return text.toString();
     }
 
     /** A call that is taken, and after which the protocol state and the packet record are those of a new object. */

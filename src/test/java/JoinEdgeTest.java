@@ -64,6 +64,7 @@ public final class JoinEdgeTest {
         for (int hub : new int[] {0, 8, 15}) {
             for (int router : new int[] {0, 6, 11}) {
                 Edges.Net net = Edges.crowded(12, 16, hub);
+                check.due("settings before", Edges.crowdedSettings(12, 16, hub), View.settings(net.x()));
                 String rest = View.routes(net.x()) + View.forwarders(net.x()) + View.record(net.x());
                 String settings = Edges.settingsBut(net, -1, router);
                 int preference = net.x().routerState(router);
@@ -74,7 +75,7 @@ public final class JoinEdgeTest {
                 check.due("routerState(" + router + ")", preference + 256, net.x().routerState(router));
                 for (int source = 0; source < 12; source++) {
                     for (int link = 0; link < 16; link++) {
-                        int due = link == hub && source != router ? 0 : 4 + source;
+                        int due = link == hub && source != router ? 0 : 5 + source;
                         String call = "pruneLeft(" + source + ", " + link + ") after join(" + router + ")";
                         check.due(call, due, net.x().pruneLeft(source, link));
                     }

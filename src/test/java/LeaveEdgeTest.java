@@ -51,7 +51,9 @@ public final class LeaveEdgeTest {
 
     private static void nothingElseChanges() {
         for (int hub : new int[] {0, 8, 15}) {
-            Edges.Net net = Edges.crowded(12, 16, hub, 0, 1, 2, 3, 4, 5, 6, 7, 8, 9, 10, 11);
+            int[] all = {0, 1, 2, 3, 4, 5, 6, 7, 8, 9, 10, 11};
+            Edges.Net net = Edges.crowded(12, 16, hub, all);
+            check.due("settings before", Edges.crowdedSettings(12, 16, hub, all), View.settings(net.x()));
             String before = View.routes(net.x()) + Edges.protocol(net.x());
             for (int router = 0; router < 12; router++) {
                 String others = Edges.settingsBut(net, -1, router);

@@ -113,6 +113,7 @@ public final class PreferenceEdgeTest {
 
     private static void nothingElseChanges() {
         Edges.Net net = Edges.crowded(12, 16, 8, 0, 5, 11);
+        check.due("settings before", Edges.crowdedSettings(12, 16, 8, 0, 5, 11), View.settings(net.x()));
         String routes = View.routes(net.x());
         for (int router = 0; router < 12; router++) {
             for (int preference : new int[] {0, 1, 128, 255}) {

@@ -128,7 +128,7 @@ public final class ProtocolEdgeTest {
             for (int kind = 0; kind < 4; kind++) {
                 Edges.Net net = Edges.crowded(12, 16, hub);
                 net.x().send(11);
-                check.due("pruneLeft(0, 0) before", 4, net.x().pruneLeft(0, 0));
+                check.due("pruneLeft(0, 0) before", 5, net.x().pruneLeft(0, 0));
                 check.due("received(11) before", 1, net.x().received(11));
                 reset(net.x(), kind);
                 for (int source = 0; source < 12; source++) {
@@ -156,6 +156,7 @@ public final class ProtocolEdgeTest {
     private static void resetKeepsSettings() {
         for (int kind = 0; kind < 4; kind++) {
             Edges.Net net = Edges.crowded(12, 16, 8, 0, 3, 7, 11);
+            check.due("settings before", Edges.crowdedSettings(12, 16, 8, 0, 3, 7, 11), View.settings(net.x()));
             int link = net.x().linkState(3);
             String others = Edges.settingsBut(net, 3, -1);
             reset(net.x(), kind);

@@ -118,7 +118,7 @@ public final class SendEdgeTest {
     private static void otherSourcesStay() {
         for (int source : new int[] {0, 1, 6, 11}) {
             Edges.Net net = Edges.crowded(12, 16, 8, 3, 9);
-            net.x().tick(15);
+            net.x().tick(16);
             String forwarders = View.forwarders(net.x());
             net.x().send(source);
             check.due("forwarders after send(" + source + ")", forwarders, View.forwarders(net.x()));
@@ -135,7 +135,7 @@ public final class SendEdgeTest {
         for (int other = 0; other < 12; other++) {
             for (int link = 0; link < 16; link++) {
                 String call = "running pruneLeft(" + other + ", " + link + ") after send(6)";
-                check.due(call, link == 8 ? 0 : 4 + other, net.x().pruneLeft(other, link));
+                check.due(call, link == 8 ? 0 : 5 + other, net.x().pruneLeft(other, link));
             }
         }
         DenseCast x = Nets.diamond(4);
@@ -225,13 +225,16 @@ public final class SendEdgeTest {
     }
 
     private static void settingsStay() {
-        for (Edges.Net net : Edges.nets()) {
-            String before = View.settings(net.x()) + View.routes(net.x());
-            for (int source = 0; source < net.routers(); source++) {
+        for (int hub : new int[] {0, 8, 15}) {
+            Edges.Net net = Edges.crowded(12, 16, hub, 0, 5, 11);
+            String due = Edges.crowdedSettings(12, 16, hub, 0, 5, 11);
+            check.due("settings after a send of each source", due, View.settings(net.x()));
+            String routes = View.routes(net.x());
+            for (int source = 0; source < 12; source++) {
                 net.x().tick(64);
                 net.x().send(source);
-                String call = net.name() + "settings and routes after send(" + source + ")";
-                check.due(call, before, View.settings(net.x()) + View.routes(net.x()));
+                String call = "settings and routes after send(" + source + ")";
+                check.due(call, due + routes, View.settings(net.x()) + View.routes(net.x()));
             }
         }
     }

@@ -113,14 +113,14 @@ public final class TickTest {
             for (int source = 0; source < 12; source++) {
                 for (int link = 0; link < 16; link++) {
                     String call = "pruneLeft(" + source + ", " + link + ") after tick(3)";
-                    check.due(call, 1 + source, net.x().pruneLeft(source, link));
+                    check.due(call, 2 + source, net.x().pruneLeft(source, link));
                 }
             }
         }
         Edges.Net pair = Edges.crowded(2, 1, 0);
         pair.x().tick(13);
-        check.due("pruneLeft(0, 0) of 2 routers, 1 link", 1, pair.x().pruneLeft(0, 0));
-        check.due("pruneLeft(1, 0) of 2 routers, 1 link", 2, pair.x().pruneLeft(1, 0));
+        check.due("pruneLeft(0, 0) of 2 routers, 1 link", 2, pair.x().pruneLeft(0, 0));
+        check.due("pruneLeft(1, 0) of 2 routers, 1 link", 3, pair.x().pruneLeft(1, 0));
     }
 
     private static void zeroEndsThePrune() {
@@ -139,6 +139,8 @@ public final class TickTest {
     }
 
     private static void nothingElse() {
+        Edges.Net crowded = Edges.crowded(12, 16, 8, 3, 9);
+        check.due("settings after ticks", Edges.crowdedSettings(12, 16, 8, 3, 9), View.settings(crowded.x()));
         for (int n : new int[] {1, 16, 64, 65, Integer.MAX_VALUE}) {
             for (Edges.Net net : Edges.nets()) {
                 String before = rest(net.x());
