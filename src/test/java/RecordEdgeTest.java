@@ -69,28 +69,35 @@ public final class RecordEdgeTest {
         }
     }
 
-    private static void receivedBeforeAnySend() {
-        for (int routers : new int[] {2, 12}) {
-            DenseCast x = Nets.line(routers, 4);
+    /** Calls that send nothing and do no RESET, on new objects of which one was changed before. */
+    private static DenseCast[] withoutPacket(int routers) {
+        DenseCast[] both = {new DenseCast(routers, routers - 1, 4), Nets.line(routers, 4)};
+        for (DenseCast x : both) {
             x.join(0);
             x.tick(5);
             x.send(-1);
             x.send(routers);
-            for (int router = 0; router < routers; router++) {
-                check.due("received(" + router + ") of " + routers, 0, x.received(router));
+            x.attach(-1, 0);
+        }
+        return both;
+    }
+
+    private static void receivedBeforeAnySend() {
+        for (int routers : new int[] {2, 12}) {
+            for (DenseCast x : withoutPacket(routers)) {
+                for (int router = 0; router < routers; router++) {
+                    check.due("received(" + router + ") of " + routers, 0, x.received(router));
+                }
             }
         }
     }
 
     private static void carriedBeforeAnySend() {
         for (int routers : new int[] {2, 12}) {
-            DenseCast x = Nets.line(routers, 4);
-            x.join(0);
-            x.tick(5);
-            x.send(-1);
-            x.send(routers);
-            for (int link = 0; link < routers - 1; link++) {
-                check.due("carried(" + link + ") of " + routers, 0, x.carried(link));
+            for (DenseCast x : withoutPacket(routers)) {
+                for (int link = 0; link < routers - 1; link++) {
+                    check.due("carried(" + link + ") of " + routers, 0, x.carried(link));
+                }
             }
         }
     }
